@@ -731,7 +731,7 @@ public final class QueryHarbor {
             }
             int place = rows[source].makePlace(mark);
             rows[source].putCell(place, 0, a);
-            rows[source].putCell(place, 1, asStored(source, 1, b));
+            rows[source].putCell(place, 1, asStored(source, b));
             rows[source].putCell(place, 2, c);
             rows[source].putCell(place, 3, d);
             write(source);
@@ -742,7 +742,7 @@ public final class QueryHarbor {
         int changeCell(int source, int mark, int column, int cell) {
             int place = rows[source].placeOf(mark);
             int before = rows[source].cellAt(place, column);
-            rows[source].putCell(place, column, asStored(source, column, cell));
+            rows[source].putCell(place, column, asStored(source, cell));
             write(source);
             return before;
         }
@@ -764,8 +764,9 @@ public final class QueryHarbor {
             cache.sweep();
         }
 
-        private int asStored(int source, int column, int cell) {
-            if (storeOf(source) != KEYS || column == 0 || !isNumber(cell)) {
+        /** What is kept of a cell that is no key; counts a loss if KEYS makes it another one. */
+        private int asStored(int source, int cell) {
+            if (storeOf(source) != KEYS || !isNumber(cell)) {
                 return cell;
             }
             int stored = Math.max(0, Math.min(MOST_KEY, cell));
@@ -907,14 +908,12 @@ public final class QueryHarbor {
             }
         }
 
-        void makeEmpty() {
+        /** Forgets all that asking adds up; the rest is made anew at the end. */
+        void begin() {
             for (int seat = 0; seat < MOST_SEATS; seat++) {
                 rows[seat].count = 0;
             }
-            count = 0;
-            columns = 0;
             missing = 0;
-            claims = NONE;
             cost = 0;
             attempts = 0;
             shipped = 0;
@@ -1062,7 +1061,7 @@ public final class QueryHarbor {
             lastTick = last;
             from = 0;
             to = moment;
-            answer.makeEmpty();
+            answer.begin();
         }
 
         void end() {

@@ -18,7 +18,9 @@ public final class AskingTest {
         promise26Claims();
         promise26ClaimsOfTheCache();
         promise26ClaimsBetweenWrites();
+        promise26ClaimsFromTheEntryOn();
         promise27Cost();
+        promise24ThreeSeats();
         promise27WhatIsSent();
         promise28Attempts();
         promise29Shipped();
@@ -27,6 +29,7 @@ public final class AskingTest {
         promise30Bound();
         promise30BoundByFirstLink();
         promise30BoundInBatches();
+        promise30KeysRise();
         promise30BindWithoutAnswer();
         promise30NotBound();
         promise30Switched();
@@ -35,6 +38,8 @@ public final class AskingTest {
         promise32EntriesAtMost();
         promise32EntriesServe();
         promise32ServedByConditions();
+        promise32MadeAnew();
+        promise32LeasesOfStores();
         promise32Messages();
         promise32DroppedInTheMiddle();
         Checks.end("AskingTest");
@@ -267,6 +272,65 @@ public final class AskingTest {
         x.ask(0, 200);
         Checks.due("no keys", 11, x.taken(1));
         Checks.due("that of now", 5, x.claims());
+    }
+
+    /** An entry that is younger than a row of another seat allows. */
+    private static void promise26ClaimsFromTheEntryOn() {
+        QueryHarbor x = new QueryHarbor();
+        x.setPace(0, 1, 60);
+        x.setPace(1, 1, 60);
+        x.add(0, 1, 1, 1, 1);
+        draft(x, 0);
+        x.ask(0, 200);
+        Checks.due("from 1 on", 1, x.claims());
+        x.change(0, 0, 1, 2);
+        x.add(2, 1, 1, 0, 0);
+        x.pass(1);
+        draft(x, 2);
+        x.ask(0, 200);
+        Checks.due("from 3 on", 3, x.claims());
+        x.pass(1);
+        draft(x, 0, 2);
+        x.ask(200, 200);
+        Checks.due("0 from the cache", 0, x.taken(0));
+        Checks.due("2 from the cache", 10, x.taken(1));
+        Checks.due("1 to 1, and 3 to 3", -1, x.claims());
+        draft(x, 0);
+        x.ask(200, 200);
+        Checks.due("what was asked before does not count", 1, x.claims());
+    }
+
+    private static void promise24ThreeSeats() {
+        QueryHarbor x = new QueryHarbor();
+        x.add(0, 1, 0, 0, 0);
+        x.add(0, 2, 0, 0, 0);
+        x.add(2, 1, 5, 0, 0);
+        x.add(2, 2, 6, 0, 0);
+        x.add(2, 3, 6, 0, 0);
+        x.add(4, 9, 6, 1, 0);
+        x.add(4, 8, 6, 2, 0);
+        x.add(4, 7, 5, 2, 0);
+        x.add(4, 6, 4, 1, 0);
+        x.seat(0);
+        x.seat(2);
+        x.seat(4);
+        x.out(0, 0);
+        x.out(1, 0);
+        x.out(2, 0);
+        x.link(1, 1, 2, 1);
+        x.link(0, 0, 2, 2);
+        int[][] want = {{1, 2, 9}, {1, 3, 9}, {2, 1, 7}, {2, 2, 8}, {2, 3, 8}};
+        Checks.due("matches", want.length, x.ask(0, 200));
+        for (int row = 0; row < want.length; row++) {
+            for (int column = 0; column < 3; column++) {
+                Checks.due("match " + row + " " + column, want[row][column], x.answer(row, column));
+            }
+        }
+        x.link(0, 0, 1, 0);
+        Checks.due("all three links", 1, x.answersAnew());
+        Checks.due("all three links", 1, x.ask(200, 200));
+        Checks.due("the seat 1", 2, x.answer(0, 1));
+        Checks.due("the seat 2", 8, x.answer(0, 2));
     }
 
     private static void promise27Cost() {
@@ -531,6 +595,43 @@ public final class AskingTest {
         Checks.due("rows of both batches by their marks", 12, x.answer(4, 0));
     }
 
+    /** The keys 9, 4, 2, 8, 1 and 4 again: the first four of them, as they rise, leave out 9. */
+    private static void promise30KeysRise() {
+        QueryHarbor x = new QueryHarbor();
+        int[] keys = {9, 4, 2, 8, 1, 4, 9};
+        for (int key : keys) {
+            x.add(0, key, 0, 0, 0);
+        }
+        addRows(x, 2, 12);
+        draft(x, 0, 2);
+        x.out(1, 0);
+        x.link(0, 0, 1, 0);
+        x.setPace(1, 10, 0);
+        Checks.due("one request", 5, x.ask(0, 1));
+        Checks.due("attempts", 2, x.attempts());
+        Checks.due("4, 2, 8, 1 and 4", 4, x.answer(0, 0));
+        Checks.due("4, 2, 8, 1 and 4", 4, x.answer(4, 0));
+        Checks.due("open", 2, x.missing());
+        x.pass(1);
+        Checks.due("two requests", 7, x.ask(0, 200));
+        Checks.due("attempts", 3, x.attempts());
+        Checks.due("each key once", 7 + 5, x.shipped());
+        QueryHarbor y = withRows(0, 5);
+        addRows(y, 1, 9);
+        draft(y, 1);
+        y.ask(0, 200);
+        draft(y, 0, 1);
+        y.link(0, 0, 1, 0);
+        y.where(0, 0, MORE, -1);
+        y.pass(1);
+        y.ask(0, 200);
+        Checks.due("5 keys cost 10 and 5, a scan 5 and 9", 13, y.taken(1));
+        y.where(0, 0, MORE, 0);
+        y.pass(1);
+        y.ask(0, 200);
+        Checks.due("4 keys cost 5 and 4", 11, y.taken(1));
+    }
+
     private static void promise30BindWithoutAnswer() {
         QueryHarbor x = withRows(0, 6);
         addRows(x, 4, 6);
@@ -791,6 +892,81 @@ public final class AskingTest {
         x.ask(0, 200);
         Checks.due("the other seat's conditions", 13, x.taken(0));
         Checks.due("give this one nothing", 3, x.taken(1));
+    }
+
+    /** Entries that are made in the place of others have nothing of these. */
+    private static void promise32MadeAnew() {
+        QueryHarbor x = withRows(0, 8);
+        addRows(x, 1, 5);
+        addRows(x, 3, 4);
+        draft(x, 0);
+        x.where(0, 0, LESS, 5);
+        x.where(0, 1, MORE, 1);
+        x.ask(0, 200);
+        draft(x, 1);
+        x.ask(0, 200);
+        draft(x, 3);
+        x.ask(0, 200);
+        x.add(0, 9, 9, 9, 9);
+        Checks.due("the first one is dropped", 2, x.entries());
+        draft(x, 0);
+        Checks.due("a new one", 9, x.ask(0, 200));
+        Checks.due("three", 3, x.entries());
+        dueCached(x, 1, 5);
+        dueCached(x, 3, 4);
+        dueCached(x, 0, 9);
+        for (int i = 0; i < 6; i++) {
+            draft(x, 2);
+            x.where(0, 0, MORE, i);
+            x.where(0, 0, LESS, i + 2);
+            x.ask(0, 200);
+        }
+        draft(x, 5);
+        x.ask(0, 200);
+        Checks.due("one more takes the first place", 6, x.entries());
+        dueCached(x, 5, 0);
+        draft(x, 2);
+        x.where(0, 0, SAME, 1);
+        x.ask(200, 200);
+        Checks.due("the first one is gone", 3, x.taken(0));
+        QueryHarbor y = withRows(0, 8);
+        draft(y, 0);
+        y.where(0, 1, LESS, 5);
+        y.ask(0, 200);
+        draft(y, 0);
+        y.where(0, 0, LESS, 5);
+        y.ask(200, 200);
+        Checks.due("of another column", 3, y.taken(0));
+        draft(y, 0);
+        y.where(0, 1, LESS, 3);
+        y.ask(200, 200);
+        Checks.due("of the same column", 0, y.taken(0));
+    }
+
+    private static void dueCached(QueryHarbor x, int source, int rows) {
+        draft(x, source);
+        Checks.due("rows of the source " + source, rows, x.ask(200, 200));
+        Checks.due("cached: the source " + source, 0, x.taken(0));
+    }
+
+    private static void promise32LeasesOfStores() {
+        for (int store = 0; store < 3; store++) {
+            QueryHarbor x = new QueryHarbor();
+            for (int source = 0; source < 6; source++) {
+                draft(x, source);
+                x.ask(0, 200);
+            }
+            Checks.due("all", 6, x.entries());
+            x.pass(10);
+            x.setLease(store, 3);
+            Checks.due("those of the store are dropped", 4, x.entries());
+            draft(x, 2 * store + 1);
+            x.ask(200, 200);
+            Checks.due("dropped", 3, x.taken(0));
+            draft(x, (2 * store + 3) % 6);
+            x.ask(200, 200);
+            Checks.due("not dropped", 0, x.taken(0));
+        }
     }
 
     private static void promise32Messages() {

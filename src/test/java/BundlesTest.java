@@ -80,6 +80,8 @@ public final class BundlesTest {
 
     private static void promise36CannotBeDone() {
         dueNotDone("cell above", ADD, 0, 1000, 0, 0, 0);
+        dueNotDone("cell above", ADD, 0, 0, 1000, 0, 0);
+        dueNotDone("cell above", ADD, 0, 0, 0, 1000, 0);
         dueNotDone("missing in a table", ADD, 0, 0, 0, 0, MISSING);
         dueNotDone("twelve rows in a table", ADD, 1, 0, 0, 0, 0);
         dueNotDone("twelve rows in KEYS", ADD, 3, 50, 0, 0, 0);
@@ -120,6 +122,11 @@ public final class BundlesTest {
         x.step(ADD, 2, 6, 0, 0, 0);
         Checks.due("the last one ends it", 3, x.run());
         Checks.due("one after the other", 50, x.cell(2, 5, 1));
+        x.step(REMOVE, 2, 6, 0, 0, 0);
+        x.step(REMOVE, 2, 6, 0, 0, 0);
+        Checks.due("another row at the same place of a bundle", 1, x.run());
+        Checks.due("it comes back, too", 60, x.cell(2, 6, 1));
+        Checks.due("and it alone", 2, x.count(2));
         Checks.due("losses", 3, x.losses());
         x.seat(2);
         x.out(0, 0);

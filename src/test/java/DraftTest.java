@@ -244,6 +244,11 @@ public final class DraftTest {
         x.out(1, 0);
         dueAnew("groups of pairs", x,
                 new int[][] {{MISSING, 16, 72}, {NULL, 8, 36}, {-5, 8, 36}, {0, 8, 36}, {5, 24, 108}});
+        x.change(4, 4, 1, -999);
+        x.change(4, 8, 1, -998);
+        Checks.due("NULL is ahead of the least numbers", NULL, x.answerAnew(1, 0));
+        Checks.due("the least number", -999, x.answerAnew(2, 0));
+        Checks.due("the next one", -998, x.answerAnew(3, 0));
         x.where(0, 1, QueryHarbor.SAME, 9);
         dueAnew("no match, no group", x, new int[0][]);
     }
