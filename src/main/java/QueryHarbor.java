@@ -594,12 +594,11 @@ public final class QueryHarbor {
 
         /** Is told of each write, when the moment is the one that it has made; a sweep has to follow. */
         void hear(int source) {
-            int comes = time.now + lags[storeOf(source)];
             for (int i = 0; i < count; i++) {
                 Entry entry = entries[i];
                 if (entry.source == source) {
                     entry.to = Math.min(entry.to, time.moment - 1);
-                    entry.dropTick = Math.min(entry.dropTick, comes);
+                    entry.dropTick = Math.min(entry.dropTick, time.now + lags[entry.store]);
                 }
             }
         }

@@ -616,6 +616,14 @@ public final class AskingTest {
         Checks.due("two requests", 7, x.ask(0, 200));
         Checks.due("attempts", 3, x.attempts());
         Checks.due("each key once", 7 + 5, x.shipped());
+        QueryHarbor z = new QueryHarbor();
+        for (int key : new int[] {3, 3, 4, 5, 6, 3}) {
+            z.add(0, key, 0, 0, 0);
+        }
+        draft(z, 0, 4);
+        z.link(0, 0, 1, 0);
+        z.ask(0, 200);
+        Checks.due("the least key once, too", 2, z.attempts());
         QueryHarbor y = withRows(0, 5);
         addRows(y, 1, 9);
         draft(y, 1);
@@ -800,6 +808,16 @@ public final class AskingTest {
         x.where(0, 0, MORE, 102);
         x.ask(200, 200);
         Checks.due("nor is that whose place was taken", 0, x.taken(0));
+        QueryHarbor y = withRows(0, 1);
+        y.setPace(0, 1, 60);
+        draft(y, 0);
+        for (int i = 0; i < 9; i++) {
+            y.change(0, 0, 0, 50 + i);
+            y.ask(200, 200);
+            Checks.due("the last one made serves", i == 0 ? 50 : 49 + i, y.answer(0, 0));
+            y.pass(1);
+            y.ask(0, 200);
+        }
     }
 
     private static void promise32EntriesServe() {
