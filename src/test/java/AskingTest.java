@@ -45,27 +45,6 @@ public final class AskingTest {
         Checks.end("AskingTest");
     }
 
-    private static QueryHarbor withRows(int source, int rows) {
-        QueryHarbor x = new QueryHarbor();
-        addRows(x, source, rows);
-        return x;
-    }
-
-    /** Rows with the numbers 0 to rows - 1 in the columns 0 and 1. */
-    private static void addRows(QueryHarbor x, int source, int rows) {
-        for (int i = 0; i < rows; i++) {
-            x.add(source, i, i, 0, 0);
-        }
-    }
-
-    private static void draft(QueryHarbor x, int... sources) {
-        x.clear();
-        for (int source : sources) {
-            x.seat(source);
-        }
-        x.out(0, 0);
-    }
-
     private static void promise22WrongArguments() {
         QueryHarbor x = new QueryHarbor();
         Checks.argument("fresh below, no seats", () -> x.ask(-1, 0));
@@ -85,8 +64,8 @@ public final class AskingTest {
     }
 
     private static void promise22Deadline() {
-        QueryHarbor x = withRows(0, 1);
-        draft(x, 0);
+        QueryHarbor x = Setups.withRows(0, 1);
+        Setups.draft(x, 0);
         x.setPace(0, 5, 0);
         x.fail(0, 2, false);
         Checks.due("ten ticks are more than the deadline", 0, x.ask(0, 5));
@@ -105,8 +84,8 @@ public final class AskingTest {
     }
 
     private static void promise22DeadlineBehindQuota() {
-        QueryHarbor x = withRows(0, 1);
-        draft(x, 0);
+        QueryHarbor x = Setups.withRows(0, 1);
+        Setups.draft(x, 0);
         x.setBounds(0, 1, 12);
         x.ask(0, 0);
         x.pass(1);
@@ -125,8 +104,8 @@ public final class AskingTest {
     }
 
     private static void promise23Answers() {
-        QueryHarbor x = withRows(0, 3);
-        draft(x, 0);
+        QueryHarbor x = Setups.withRows(0, 3);
+        Setups.draft(x, 0);
         x.ask(0, 200);
         Checks.due("answers", 3, x.answers());
         x.add(0, 1, 1, 1, 1);
@@ -157,7 +136,7 @@ public final class AskingTest {
         x.change(4, 7, 1, 9);
         x.remove(4, 2);
         Checks.due("as it was", NULL, x.answer(1, 0));
-        draft(x, 4);
+        Setups.draft(x, 4);
         x.shape(40, true);
         Checks.place("still not grouped", () -> x.answer(2, 2));
         x.ask(0, 200);
@@ -171,10 +150,10 @@ public final class AskingTest {
     }
 
     private static void promise25Missing() {
-        QueryHarbor x = withRows(0, 3);
-        addRows(x, 2, 3);
-        addRows(x, 4, 3);
-        draft(x, 0, 2, 4);
+        QueryHarbor x = Setups.withRows(0, 3);
+        Setups.addRows(x, 2, 3);
+        Setups.addRows(x, 4, 3);
+        Setups.draft(x, 0, 2, 4);
         x.ask(0, 200);
         Checks.due("whole", 0, x.missing());
         x.pass(1);
@@ -184,17 +163,17 @@ public final class AskingTest {
         Checks.due("cut, and without an answer", 5, x.missing());
         x.clear();
         Checks.due("it stays", 5, x.missing());
-        draft(x, 4);
+        Setups.draft(x, 4);
         x.ask(0, 200);
         Checks.due("whole again", 0, x.missing());
     }
 
     private static void promise26Claims() {
         QueryHarbor x = new QueryHarbor();
-        draft(x, 0);
+        Setups.draft(x, 0);
         x.ask(0, 200);
         Checks.due("nothing written", 0, x.claims());
-        addRows(x, 4, 2);
+        Setups.addRows(x, 4, 2);
         x.ask(200, 200);
         Checks.due("the entry is right for what other sources wrote", 2, x.claims());
         x.add(0, 1, 1, 1, 1);
@@ -218,14 +197,14 @@ public final class AskingTest {
         }
         x.add(0, 1, 1, 1, 1);
         x.add(4, 1, 1, 1, 1);
-        draft(x, 0);
+        Setups.draft(x, 0);
         x.ask(0, 200);
         Checks.due("of now", 2, x.claims());
         x.add(2, 1, 1, 0, 0);
         x.change(0, 0, 1, 5);
         x.ask(200, 200);
         Checks.due("up to the next write of its source", 3, x.claims());
-        draft(x, 0, 2);
+        Setups.draft(x, 0, 2);
         Checks.due("two seats", 1, x.ask(200, 200));
         Checks.due("the first one from the cache", 0, x.taken(0));
         Checks.due("both are right at 3", 3, x.claims());
@@ -234,7 +213,7 @@ public final class AskingTest {
         x.where(1, 1, SAME, 7);
         Checks.due("the scan of the source 2 is there still", 0, x.ask(200, 200));
         Checks.due("still at 3", 3, x.claims());
-        draft(x, 0, 3);
+        Setups.draft(x, 0, 3);
         x.add(3, 1, 1, 0, 0);
         x.ask(200, 200);
         Checks.due("the source 3 is right from 6 on only", -1, x.claims());
@@ -247,14 +226,14 @@ public final class AskingTest {
         x.setPace(0, 0, 60);
         x.setPace(1, 0, 60);
         x.add(0, 1, 1, 1, 1);
-        draft(x, 0);
+        Setups.draft(x, 0);
         x.ask(0, 200);
         x.change(0, 0, 1, 2);
         x.pass(1);
-        draft(x, 1);
+        Setups.draft(x, 1);
         x.ask(0, 200);
         x.add(1, 1, 1, 1, 1);
-        draft(x, 0, 1);
+        Setups.draft(x, 0, 1);
         x.ask(200, 200);
         Checks.due("0 from 1 to 1, 1 from 0 to 2", 1, x.claims());
         x.pass(1);
@@ -263,7 +242,7 @@ public final class AskingTest {
         x.pass(2);
         x.ask(1, 200);
         Checks.due("both of now", 3, x.claims());
-        draft(x, 0, 2);
+        Setups.draft(x, 0, 2);
         x.link(0, 3, 1, 0);
         x.where(0, 0, SAME, 100);
         x.add(2, 1, 1, 0, 0);
@@ -280,22 +259,22 @@ public final class AskingTest {
         x.setPace(0, 1, 60);
         x.setPace(1, 1, 60);
         x.add(0, 1, 1, 1, 1);
-        draft(x, 0);
+        Setups.draft(x, 0);
         x.ask(0, 200);
         Checks.due("from 1 on", 1, x.claims());
         x.change(0, 0, 1, 2);
         x.add(2, 1, 1, 0, 0);
         x.pass(1);
-        draft(x, 2);
+        Setups.draft(x, 2);
         x.ask(0, 200);
         Checks.due("from 3 on", 3, x.claims());
         x.pass(1);
-        draft(x, 0, 2);
+        Setups.draft(x, 0, 2);
         x.ask(200, 200);
         Checks.due("0 from the cache", 0, x.taken(0));
         Checks.due("2 from the cache", 10, x.taken(1));
         Checks.due("1 to 1, and 3 to 3", -1, x.claims());
-        draft(x, 0);
+        Setups.draft(x, 0);
         x.ask(200, 200);
         Checks.due("what was asked before does not count", 1, x.claims());
     }
@@ -334,23 +313,23 @@ public final class AskingTest {
     }
 
     private static void promise27Cost() {
-        QueryHarbor x = withRows(0, 3);
-        addRows(x, 2, 3);
-        addRows(x, 4, 3);
-        draft(x, 0);
+        QueryHarbor x = Setups.withRows(0, 3);
+        Setups.addRows(x, 2, 3);
+        Setups.addRows(x, 4, 3);
+        Setups.draft(x, 0);
         x.ask(0, 200);
         Checks.due("ROWS: 5 and 3", 8, x.cost());
-        draft(x, 2);
+        Setups.draft(x, 2);
         x.ask(0, 200);
         Checks.due("KEYS: 1 and 3", 4, x.cost());
-        draft(x, 4);
+        Setups.draft(x, 4);
         x.fail(2, 1, false);
         x.ask(0, 200);
         Checks.due("DOCUMENTS: twice 3 and 6", 12, x.cost());
         x.ask(0, 200);
         Checks.due("the cache costs nothing", 0, x.cost());
         x.pass(1);
-        draft(x, 0, 2, 4);
+        Setups.draft(x, 0, 2, 4);
         x.ask(0, 200);
         Checks.due("all", 21, x.cost());
         Checks.due("of the stores", 3, x.attempts());
@@ -365,8 +344,8 @@ public final class AskingTest {
 
     private static void dueSent(int source, int column, int kind, int number, boolean sent) {
         QueryHarbor x = new QueryHarbor();
-        addRows(x, source, 8);
-        draft(x, source);
+        Setups.addRows(x, source, 8);
+        Setups.draft(x, source);
         x.where(0, column, kind, number);
         int matches = x.answersAnew();
         dueShipped("source " + source + " column " + column + " kind " + kind, x, sent ? matches : 8, matches);
@@ -389,8 +368,8 @@ public final class AskingTest {
     }
 
     private static void promise28Attempts() {
-        QueryHarbor x = withRows(0, 1);
-        draft(x, 0, 0);
+        QueryHarbor x = Setups.withRows(0, 1);
+        Setups.draft(x, 0, 0);
         x.fail(0, 4, false);
         x.ask(0, 200);
         Checks.due("three that fail, one that fails, one that does not", 5, x.attempts());
@@ -404,8 +383,8 @@ public final class AskingTest {
     }
 
     private static void promise29Shipped() {
-        QueryHarbor x = withRows(0, 5);
-        draft(x, 0);
+        QueryHarbor x = Setups.withRows(0, 5);
+        Setups.draft(x, 0);
         x.where(0, 0, IS_MISSING, 0);
         x.where(0, 0, MORE, 1);
         Checks.due("ask", 0, x.ask(0, 200));
@@ -416,7 +395,7 @@ public final class AskingTest {
 
     private static void promise30TakenByGuess() {
         QueryHarbor x = new QueryHarbor();
-        draft(x, 0, 2, 4);
+        Setups.draft(x, 0, 2, 4);
         x.where(2, 1, SAME, 1);
         x.where(1, 1, SAME, 1);
         x.where(1, 1, SAME, 2);
@@ -428,25 +407,25 @@ public final class AskingTest {
         Checks.place("none before", () -> x.taken(-1));
         x.clear();
         Checks.due("it stays", 23, x.taken(0));
-        QueryHarbor y = withRows(4, 3);
-        draft(y, 4);
+        QueryHarbor y = Setups.withRows(4, 3);
+        Setups.draft(y, 4);
         y.ask(0, 200);
-        draft(y, 0, 4);
+        Setups.draft(y, 0, 4);
         y.where(0, 0, SAME, 1);
         y.where(0, 0, SAME, 1);
         y.pass(1);
         y.ask(0, 200);
         Checks.due("10 halved twice is 2, less than 3", 3, y.taken(0));
-        draft(y, 0, 4);
+        Setups.draft(y, 0, 4);
         y.where(0, 0, SAME, 1);
         y.where(1, 0, SAME, 1);
         y.pass(1);
         y.ask(0, 200);
         Checks.due("3 halved is 1", 13, y.taken(0));
-        draft(y, 1);
+        Setups.draft(y, 1);
         y.ask(0, 200);
         Checks.due("the size 0", 0, y.size(1));
-        draft(y, 4, 1);
+        Setups.draft(y, 4, 1);
         y.where(0, 0, SAME, 1);
         y.pass(1);
         y.ask(0, 200);
@@ -455,7 +434,7 @@ public final class AskingTest {
 
     private static void promise30TakenByLinks() {
         QueryHarbor x = new QueryHarbor();
-        draft(x, 0, 2, 4);
+        Setups.draft(x, 0, 2, 4);
         x.link(0, 0, 2, 0);
         x.where(0, 0, SAME, 1);
         x.where(0, 0, SAME, 1);
@@ -464,7 +443,7 @@ public final class AskingTest {
         Checks.due("the least", 3, x.taken(0));
         Checks.due("linked, though it is more", 21, x.taken(1));
         Checks.due("the rest", 13, x.taken(2));
-        draft(x, 1, 3, 5);
+        Setups.draft(x, 1, 3, 5);
         x.link(1, 0, 2, 0);
         x.link(0, 0, 2, 1);
         x.where(2, 0, SAME, 1);
@@ -484,8 +463,8 @@ public final class AskingTest {
         x.add(0, NULL, 0, 0, 0);
         x.add(0, 2, 1, 0, 0);
         x.add(0, 50, 0, 0, 0);
-        addRows(x, 4, 6);
-        draft(x, 0, 4);
+        Setups.addRows(x, 4, 6);
+        Setups.draft(x, 0, 4);
         x.out(1, 0);
         x.link(0, 0, 1, 0);
         x.where(0, 1, IS_MISSING, 0);
@@ -493,7 +472,7 @@ public final class AskingTest {
         Checks.due("bound", 11, x.taken(1));
         Checks.due("no request", 1, x.attempts());
         Checks.due("whole", 0, x.missing());
-        draft(x, 0, 4);
+        Setups.draft(x, 0, 4);
         x.out(1, 0);
         x.link(0, 0, 1, 0);
         x.where(0, 1, SAME, 0);
@@ -510,15 +489,15 @@ public final class AskingTest {
 
     /** The first link with a taken seat cannot be sent, so the second one is not looked at. */
     private static void promise30BoundByFirstLink() {
-        QueryHarbor x = withRows(0, 2);
-        addRows(x, 2, 2);
-        draft(x, 0, 2);
+        QueryHarbor x = Setups.withRows(0, 2);
+        Setups.addRows(x, 2, 2);
+        Setups.draft(x, 0, 2);
         x.link(0, 1, 1, 1);
         x.link(0, 0, 1, 0);
         x.where(0, 0, SAME, 1);
         x.ask(0, 200);
         Checks.due("KEYS cannot do SAME for the value", 13, x.taken(1));
-        draft(x, 0, 2);
+        Setups.draft(x, 0, 2);
         x.link(0, 0, 1, 0);
         x.link(0, 1, 1, 1);
         x.where(0, 0, SAME, 0);
@@ -533,9 +512,9 @@ public final class AskingTest {
 
     /** How the seat 2 is taken, whose first link is with a row of the source 1, the second one with the source 0. */
     private static int takenLast(int forbidden) {
-        QueryHarbor x = withRows(0, 2);
-        addRows(x, 1, 2);
-        draft(x, 0, 1, 4);
+        QueryHarbor x = Setups.withRows(0, 2);
+        Setups.addRows(x, 1, 2);
+        Setups.draft(x, 0, 1, 4);
         x.where(0, 0, SAME, 0);
         x.where(1, 0, SAME, 0);
         x.link(1, 0, 2, 0);
@@ -547,17 +526,17 @@ public final class AskingTest {
     }
 
     private static void promise30BoundInBatches() {
-        QueryHarbor x = withRows(0, 9);
-        addRows(x, 2, 12);
+        QueryHarbor x = Setups.withRows(0, 9);
+        Setups.addRows(x, 2, 12);
         for (int i = 0; i < 12; i++) {
             x.add(4, 12 - i, i, i / 4, 0);
         }
-        draft(x, 0, 2);
+        Setups.draft(x, 0, 2);
         x.link(0, 0, 1, 0);
         x.setBounds(1, 20, 3);
         x.ask(0, 200);
         Checks.due("9 keys: 3 and 9 are more than 1 and 10", 13, x.taken(1));
-        draft(x, 0, 2);
+        Setups.draft(x, 0, 2);
         x.link(0, 0, 1, 0);
         x.where(0, 0, LESS, 8);
         x.pass(1);
@@ -576,7 +555,7 @@ public final class AskingTest {
         Checks.due("a failure of a batch", 4, x.attempts());
         Checks.due("what all costs", 13 + 3 + 8, x.cost());
         Checks.due("all", 8, x.answers());
-        draft(x, 0, 4);
+        Setups.draft(x, 0, 4);
         x.out(1, 0);
         x.link(0, 0, 1, 1);
         x.where(0, 0, LESS, 5);
@@ -584,7 +563,7 @@ public final class AskingTest {
         Checks.due("five keys", 5, x.ask(0, 200));
         Checks.due("two requests", 3, x.attempts());
         Checks.due("by the first seat", 12, x.answer(0, 1));
-        draft(x, 4, 0);
+        Setups.draft(x, 4, 0);
         x.shape(40, false);
         x.link(0, 1, 1, 0);
         x.where(1, 0, LESS, 5);
@@ -602,8 +581,8 @@ public final class AskingTest {
         for (int key : keys) {
             x.add(0, key, 0, 0, 0);
         }
-        addRows(x, 2, 12);
-        draft(x, 0, 2);
+        Setups.addRows(x, 2, 12);
+        Setups.draft(x, 0, 2);
         x.out(1, 0);
         x.link(0, 0, 1, 0);
         x.setPace(1, 10, 0);
@@ -620,15 +599,15 @@ public final class AskingTest {
         for (int key : new int[] {3, 3, 4, 5, 6, 3}) {
             z.add(0, key, 0, 0, 0);
         }
-        draft(z, 0, 4);
+        Setups.draft(z, 0, 4);
         z.link(0, 0, 1, 0);
         z.ask(0, 200);
         Checks.due("the least key once, too", 2, z.attempts());
-        QueryHarbor y = withRows(0, 5);
-        addRows(y, 1, 9);
-        draft(y, 1);
+        QueryHarbor y = Setups.withRows(0, 5);
+        Setups.addRows(y, 1, 9);
+        Setups.draft(y, 1);
         y.ask(0, 200);
-        draft(y, 0, 1);
+        Setups.draft(y, 0, 1);
         y.link(0, 0, 1, 0);
         y.where(0, 0, MORE, -1);
         y.pass(1);
@@ -641,9 +620,9 @@ public final class AskingTest {
     }
 
     private static void promise30BindWithoutAnswer() {
-        QueryHarbor x = withRows(0, 6);
-        addRows(x, 4, 6);
-        draft(x, 0, 4);
+        QueryHarbor x = Setups.withRows(0, 6);
+        Setups.addRows(x, 4, 6);
+        Setups.draft(x, 0, 4);
         x.link(0, 0, 1, 0);
         x.setPace(2, 10, 0);
         Checks.due("the second request is too late", 4, x.ask(0, 5));
@@ -664,25 +643,25 @@ public final class AskingTest {
     }
 
     private static void promise30NotBound() {
-        QueryHarbor x = withRows(0, 4);
-        addRows(x, 2, 4);
-        draft(x, 2);
+        QueryHarbor x = Setups.withRows(0, 4);
+        Setups.addRows(x, 2, 4);
+        Setups.draft(x, 2);
         x.ask(0, 200);
         x.pass(1);
-        draft(x, 0, 2);
+        Setups.draft(x, 0, 2);
         x.link(0, 0, 1, 0);
         x.where(0, 0, MORE, -1);
         x.where(0, 0, MORE, -1);
         x.ask(0, 200);
         Checks.due("1 and 4 are not less than 1 and 4", 13, x.taken(1));
-        draft(x, 0, 2);
+        Setups.draft(x, 0, 2);
         x.link(0, 0, 1, 0);
         x.where(0, 0, MORE, 0);
         x.where(0, 0, MORE, 0);
         x.pass(1);
         x.ask(0, 200);
         Checks.due("1 and 3 are less", 11, x.taken(1));
-        draft(x, 0, 2);
+        Setups.draft(x, 0, 2);
         x.where(0, 0, MORE, 0);
         x.where(0, 0, MORE, 0);
         x.pass(1);
@@ -691,11 +670,11 @@ public final class AskingTest {
     }
 
     private static QueryHarbor withSwitch(int inFirstBatch) {
-        QueryHarbor x = withRows(0, 5);
+        QueryHarbor x = Setups.withRows(0, 5);
         for (int i = 0; i < 12; i++) {
             x.add(4, i, i < inFirstBatch ? i % 4 : 4, 0, 0);
         }
-        draft(x, 0, 4);
+        Setups.draft(x, 0, 4);
         x.link(0, 0, 1, 1);
         return x;
     }
@@ -753,15 +732,15 @@ public final class AskingTest {
     }
 
     private static void promise31Size() {
-        QueryHarbor x = withRows(0, 5);
+        QueryHarbor x = Setups.withRows(0, 5);
         Checks.place("no source", () -> x.size(6));
         Checks.place("no source", () -> x.size(-1));
-        draft(x, 0);
+        Setups.draft(x, 0);
         Checks.due("believed at first", 10, x.size(0));
         x.where(0, 0, LESS, 3);
         x.ask(0, 200);
         Checks.due("a condition that is sent", 10, x.size(0));
-        draft(x, 0);
+        Setups.draft(x, 0);
         x.fail(0, 3, false);
         x.ask(0, 200);
         Checks.due("no answer", 10, x.size(0));
@@ -780,37 +759,37 @@ public final class AskingTest {
         x.ask(200, 200);
         Checks.due("the latest one", 6, x.size(0));
         Checks.due("of another source", 10, x.size(1));
-        draft(x, 5);
+        Setups.draft(x, 5);
         x.ask(0, 200);
         Checks.due("none", 0, x.size(5));
     }
 
     private static void promise32EntriesAtMost() {
-        QueryHarbor x = withRows(0, 3);
+        QueryHarbor x = Setups.withRows(0, 3);
         for (int i = 0; i < 8; i++) {
-            draft(x, 0);
+            Setups.draft(x, 0);
             x.where(0, 0, MORE, 100 + i);
             x.pass(1);
             x.ask(0, 200);
             Checks.due("entries", Math.min(6, i + 1), x.entries());
         }
         for (int i = 7; i >= 2; i--) {
-            draft(x, 0);
+            Setups.draft(x, 0);
             x.where(0, 0, MORE, 100 + i);
             x.ask(200, 200);
             Checks.due("the last six are there", 0, x.taken(0));
         }
-        draft(x, 0);
+        Setups.draft(x, 0);
         x.where(0, 0, MORE, 101);
         x.ask(200, 200);
         Checks.due("the first ones are not", 3, x.taken(0));
-        draft(x, 0);
+        Setups.draft(x, 0);
         x.where(0, 0, MORE, 102);
         x.ask(200, 200);
         Checks.due("nor is that whose place was taken", 0, x.taken(0));
-        QueryHarbor y = withRows(0, 1);
+        QueryHarbor y = Setups.withRows(0, 1);
         y.setPace(0, 1, 60);
-        draft(y, 0);
+        Setups.draft(y, 0);
         for (int i = 0; i < 9; i++) {
             y.change(0, 0, 0, 50 + i);
             y.ask(200, 200);
@@ -821,8 +800,8 @@ public final class AskingTest {
     }
 
     private static void promise32EntriesServe() {
-        QueryHarbor x = withRows(0, 3);
-        draft(x, 0);
+        QueryHarbor x = Setups.withRows(0, 3);
+        Setups.draft(x, 0);
         x.ask(0, 200);
         x.pass(10);
         x.setPace(0, 1, 60);
@@ -836,13 +815,13 @@ public final class AskingTest {
         Checks.due("served", 0, x.taken(0));
         Checks.due("by the entry made last", 50, x.answer(1, 0));
         Checks.due("nothing is made of it", 2, x.entries());
-        draft(x, 0, 0, 1);
+        Setups.draft(x, 0, 0, 1);
         x.ask(0, 200);
         Checks.due("the scan of a seat", 3, x.taken(0));
         Checks.due("serves another one in the same tick", 10, x.taken(1));
         Checks.due("but none of another source", 23, x.taken(2));
         x.setBounds(0, 20, 2);
-        draft(x, 0);
+        Setups.draft(x, 0);
         x.pass(1);
         x.ask(0, 200);
         Checks.due("cut", 4, x.entries());
@@ -854,11 +833,11 @@ public final class AskingTest {
 
     /** Whether an entry that was made with a condition serves a seat with another one. */
     private static void dueServes(int kind, int number, int column, int asked, int askedNumber, boolean serves) {
-        QueryHarbor x = withRows(0, 8);
-        draft(x, 0);
+        QueryHarbor x = Setups.withRows(0, 8);
+        Setups.draft(x, 0);
         x.where(0, 0, kind, number);
         x.ask(0, 200);
-        draft(x, 0);
+        Setups.draft(x, 0);
         x.where(0, column, asked, askedNumber);
         int rows = x.ask(200, 200);
         String what = kind + " " + number + " for " + asked + " " + askedNumber;
@@ -886,25 +865,25 @@ public final class AskingTest {
         dueServes(IS_NULL, 0, 0, IS_NULL, 0, true);
         dueServes(IS_NULL, 0, 1, IS_NULL, 0, false);
         dueServes(IS_NULL, 0, 0, SAME, 0, false);
-        QueryHarbor x = withRows(2, 8);
-        draft(x, 2);
+        QueryHarbor x = Setups.withRows(2, 8);
+        Setups.draft(x, 2);
         x.where(0, 0, LESS, 5);
         x.where(0, 0, MORE, 1);
         x.ask(0, 200);
-        draft(x, 2);
+        Setups.draft(x, 2);
         x.where(0, 0, LESS, 5);
         x.ask(200, 200);
         Checks.due("one of two conditions", 3, x.taken(0));
-        draft(x, 2);
+        Setups.draft(x, 2);
         x.where(0, 1, LESS, 2);
         x.where(0, 0, SAME, 3);
         Checks.due("both, by one", 0, x.ask(200, 200));
         Checks.due("both, by one", 0, x.taken(0));
-        draft(x, 2);
+        Setups.draft(x, 2);
         x.where(0, 1, LESS, 5);
         x.ask(200, 200);
         Checks.due("what is not sent gives nothing", 3, x.taken(0));
-        draft(x, 4, 4);
+        Setups.draft(x, 4, 4);
         x.where(1, 0, LESS, 5);
         x.where(1, 0, MORE, 2);
         x.ask(0, 200);
@@ -914,55 +893,55 @@ public final class AskingTest {
 
     /** Entries that are made in the place of others have nothing of these. */
     private static void promise32MadeAnew() {
-        QueryHarbor x = withRows(0, 8);
-        addRows(x, 1, 5);
-        addRows(x, 3, 4);
-        draft(x, 0);
+        QueryHarbor x = Setups.withRows(0, 8);
+        Setups.addRows(x, 1, 5);
+        Setups.addRows(x, 3, 4);
+        Setups.draft(x, 0);
         x.where(0, 0, LESS, 5);
         x.where(0, 1, MORE, 1);
         x.ask(0, 200);
-        draft(x, 1);
+        Setups.draft(x, 1);
         x.ask(0, 200);
-        draft(x, 3);
+        Setups.draft(x, 3);
         x.ask(0, 200);
         x.add(0, 9, 9, 9, 9);
         Checks.due("the first one is dropped", 2, x.entries());
-        draft(x, 0);
+        Setups.draft(x, 0);
         Checks.due("a new one", 9, x.ask(0, 200));
         Checks.due("three", 3, x.entries());
         dueCached(x, 1, 5);
         dueCached(x, 3, 4);
         dueCached(x, 0, 9);
         for (int i = 0; i < 6; i++) {
-            draft(x, 2);
+            Setups.draft(x, 2);
             x.where(0, 0, MORE, i);
             x.where(0, 0, LESS, i + 2);
             x.ask(0, 200);
         }
-        draft(x, 5);
+        Setups.draft(x, 5);
         x.ask(0, 200);
         Checks.due("one more takes the first place", 6, x.entries());
         dueCached(x, 5, 0);
-        draft(x, 2);
+        Setups.draft(x, 2);
         x.where(0, 0, SAME, 1);
         x.ask(200, 200);
         Checks.due("the first one is gone", 3, x.taken(0));
-        QueryHarbor y = withRows(0, 8);
-        draft(y, 0);
+        QueryHarbor y = Setups.withRows(0, 8);
+        Setups.draft(y, 0);
         y.where(0, 1, LESS, 5);
         y.ask(0, 200);
-        draft(y, 0);
+        Setups.draft(y, 0);
         y.where(0, 0, LESS, 5);
         y.ask(200, 200);
         Checks.due("of another column", 3, y.taken(0));
-        draft(y, 0);
+        Setups.draft(y, 0);
         y.where(0, 1, LESS, 3);
         y.ask(200, 200);
         Checks.due("of the same column", 0, y.taken(0));
     }
 
     private static void dueCached(QueryHarbor x, int source, int rows) {
-        draft(x, source);
+        Setups.draft(x, source);
         Checks.due("rows of the source " + source, rows, x.ask(200, 200));
         Checks.due("cached: the source " + source, 0, x.taken(0));
     }
@@ -971,27 +950,27 @@ public final class AskingTest {
         for (int store = 0; store < 3; store++) {
             QueryHarbor x = new QueryHarbor();
             for (int source = 0; source < 6; source++) {
-                draft(x, source);
+                Setups.draft(x, source);
                 x.ask(0, 200);
             }
             Checks.due("all", 6, x.entries());
             x.pass(10);
             x.setLease(store, 3);
             Checks.due("those of the store are dropped", 4, x.entries());
-            draft(x, 2 * store + 1);
+            Setups.draft(x, 2 * store + 1);
             x.ask(200, 200);
             Checks.due("dropped", 3, x.taken(0));
-            draft(x, (2 * store + 3) % 6);
+            Setups.draft(x, (2 * store + 3) % 6);
             x.ask(200, 200);
             Checks.due("not dropped", 0, x.taken(0));
         }
     }
 
     private static void promise32Messages() {
-        QueryHarbor x = withRows(0, 3);
-        addRows(x, 1, 3);
+        QueryHarbor x = Setups.withRows(0, 3);
+        Setups.addRows(x, 1, 3);
         x.setPace(0, 1, 10);
-        draft(x, 0, 1);
+        Setups.draft(x, 0, 1);
         x.ask(0, 200);
         x.pass(8);
         x.change(0, 0, 0, 9);
@@ -1012,14 +991,14 @@ public final class AskingTest {
 
     /** An entry is dropped while a query waits for a store. */
     private static void promise32DroppedInTheMiddle() {
-        QueryHarbor x = withRows(0, 3);
-        addRows(x, 4, 2);
+        QueryHarbor x = Setups.withRows(0, 3);
+        Setups.addRows(x, 4, 2);
         x.setPace(0, 1, 4);
-        draft(x, 0);
+        Setups.draft(x, 0);
         x.ask(0, 200);
         x.change(0, 0, 0, 9);
         x.setPace(2, 3, 0);
-        draft(x, 4, 0);
+        Setups.draft(x, 4, 0);
         x.where(0, 0, MORE, -1);
         x.where(0, 0, MORE, -1);
         x.where(0, 0, MORE, -1);
@@ -1027,13 +1006,13 @@ public final class AskingTest {
         Checks.due("the time has not come", 10, x.taken(1));
         x.pass(1);
         Checks.due("it has come", 1, x.entries());
-        QueryHarbor y = withRows(0, 3);
-        addRows(y, 4, 2);
-        draft(y, 0);
+        QueryHarbor y = Setups.withRows(0, 3);
+        Setups.addRows(y, 4, 2);
+        Setups.draft(y, 0);
         y.ask(0, 200);
         y.setLease(0, 2);
         y.setPace(2, 3, 0);
-        draft(y, 4, 0);
+        Setups.draft(y, 4, 0);
         y.where(0, 0, MORE, -1);
         y.where(0, 0, MORE, -1);
         y.where(0, 0, MORE, -1);

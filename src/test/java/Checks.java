@@ -33,6 +33,21 @@ final class Checks {
         dueThrow(what, IllegalStateException.class, call);
     }
 
+    /** A number for an exception that the document names; any other one, as those of the Java machine, is thrown on. */
+    static long refusal(RuntimeException e) {
+        Class<?> thrown = e.getClass();
+        if (thrown == IndexOutOfBoundsException.class) {
+            return -7001;
+        }
+        if (thrown == IllegalArgumentException.class) {
+            return -7002;
+        }
+        if (thrown == IllegalStateException.class) {
+            return -7003;
+        }
+        throw e;
+    }
+
     static void tell(String what) {
         wrong++;
         System.out.println(what);
@@ -45,7 +60,7 @@ final class Checks {
         }
     }
 
-    private static void dueThrow(String what, Class<?> want, Call call) {
+    static void dueThrow(String what, Class<?> want, Call call) {
         calls++;
         try {
             long got = call.answer();

@@ -47,9 +47,9 @@ public final class ModelTest {
 
     /** The runs are worth something only if they come to what is rare. */
     private static void dueSeen(Map<String, Integer> seen) {
-        String[] rare = {"how 0", "how 1", "how 2", "how 3", "open", "switched and open", "claims now", "claims earlier",
-            "whole and claims none", "three seats", "taken back", "all steps done", "six entries", "late", "grouped",
-            "bound in batches"};
+        String[] rare = {"how 0", "how 1", "how 2", "how 3", "open", "switched and open", "claims now",
+            "claims earlier", "whole and claims none", "three seats", "taken back", "all steps done", "six entries",
+            "late", "grouped", "bound in batches"};
         for (String what : rare) {
             if (seen.getOrDefault(what, 0) < 5) {
                 Checks.tell("only " + seen.getOrDefault(what, 0) + " times: " + what);
@@ -458,10 +458,8 @@ public final class ModelTest {
     private static long orPlace(Checks.Call call) {
         try {
             return call.answer();
-        } catch (IndexOutOfBoundsException e) {
-            return -7001;
-        } catch (IllegalStateException e) {
-            return -7002;
+        } catch (RuntimeException e) {
+            return Checks.refusal(e);
         }
     }
 }
