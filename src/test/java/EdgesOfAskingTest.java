@@ -766,10 +766,7 @@ public final class EdgesOfAskingTest {
         x.add(4, 1, 1, 1, 1);
         x.change(0, 0, 0, 2);
         scanOf(x, 4, 0);
-        Setups.draft(x, 0, 4);
-        x.where(0, 0, MORE, 0);
-        x.where(1, 0, MORE, 0);
-        x.ask(200, 200);
+        Checks.due("answered", 1, askBoth(x));
         Checks.due("1 to 2, and 2 to 3", 2, x.claims());
         QueryHarbor y = new QueryHarbor();
         y.setPace(0, 0, 60);
@@ -779,16 +776,23 @@ public final class EdgesOfAskingTest {
         y.change(0, 0, 0, 2);
         y.add(4, 1, 1, 1, 1);
         scanOf(y, 4, 0);
-        Setups.draft(y, 0, 4);
-        y.where(0, 0, MORE, 0);
-        y.where(1, 0, MORE, 0);
-        Checks.due("answered", 1, y.ask(200, 200));
+        Checks.due("answered", 1, askBoth(y));
         Checks.due("whole", 0, y.missing());
         Checks.due("1 to 1, and 3 to 3", -1, y.claims());
         Setups.draft(y, 4);
         y.where(0, 0, MORE, 0);
         y.ask(200, 200);
         Checks.due("3 to 3", 3, y.claims());
+    }
+
+    /** Asks for the sources 0 and 4, of each of which the cache has an entry. */
+    private static int askBoth(QueryHarbor x) {
+        Setups.draft(x, 0, 4);
+        x.where(0, 0, MORE, 0);
+        x.where(1, 0, MORE, 0);
+        int rows = x.ask(200, 200);
+        Checks.due("both from the cache", 0, x.attempts());
+        return rows;
     }
 
     /** "or that of now, if it has no keys". */

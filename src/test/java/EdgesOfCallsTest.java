@@ -355,17 +355,13 @@ public final class EdgesOfCallsTest {
 
     private static void promise24Answer() {
         Twins.Setup asked = x -> {
-            Setups.addRows(x, 0, 5);
-            Setups.draft(x, 0);
-            x.out(0, 1);
+            draftPairs(x);
             x.ask(0, 200);
         };
         dueInside("row", asked, 5, QueryHarbor::answer, true);
         dueInside("column", asked, 2, QueryHarbor::answer, false);
         Twins.Setup grouped = x -> {
-            Setups.addRows(x, 0, 5);
-            Setups.draft(x, 0);
-            x.shape(4, true);
+            draftGroups(x);
             x.ask(0, 200);
         };
         dueInside("row of groups", grouped, 4, QueryHarbor::answer, true);
@@ -377,6 +373,20 @@ public final class EdgesOfCallsTest {
         dueInside("row of an answer without rows", none, 0, QueryHarbor::answer, true);
         dueInside("column of an answer without rows", none, 0, QueryHarbor::answer, false);
         dueInside("row of no answer", x -> Setups.draft(x, 0), 0, QueryHarbor::answer, true);
+    }
+
+    /** An answer with five rows of two columns. */
+    private static void draftPairs(QueryHarbor x) {
+        Setups.addRows(x, 0, 5);
+        Setups.draft(x, 0);
+        x.out(0, 1);
+    }
+
+    /** An answer with four groups, of five. */
+    private static void draftGroups(QueryHarbor x) {
+        Setups.addRows(x, 0, 5);
+        Setups.draft(x, 0);
+        x.shape(4, true);
     }
 
     /** A cell of an answer that is tried out. */
@@ -434,20 +444,10 @@ public final class EdgesOfCallsTest {
     private static void promise34AnswerAnew() {
         Twins.dueRefused("no seats", STATE, x -> Setups.addRows(x, 0, 2), x -> x.answerAnew(0, 0));
         Twins.dueRefused("no outputs, no row", STATE, x -> x.seat(0), x -> x.answerAnew(-1, 0));
-        Twins.Setup drafted = x -> {
-            Setups.addRows(x, 0, 5);
-            Setups.draft(x, 0);
-            x.out(0, 1);
-        };
-        dueInside("row", drafted, 5, QueryHarbor::answerAnew, true);
-        dueInside("column", drafted, 2, QueryHarbor::answerAnew, false);
-        Twins.Setup grouped = x -> {
-            Setups.addRows(x, 0, 5);
-            Setups.draft(x, 0);
-            x.shape(4, true);
-        };
-        dueInside("row of groups", grouped, 4, QueryHarbor::answerAnew, true);
-        dueInside("column of groups", grouped, 3, QueryHarbor::answerAnew, false);
+        dueInside("row", EdgesOfCallsTest::draftPairs, 5, QueryHarbor::answerAnew, true);
+        dueInside("column", EdgesOfCallsTest::draftPairs, 2, QueryHarbor::answerAnew, false);
+        dueInside("row of groups", EdgesOfCallsTest::draftGroups, 4, QueryHarbor::answerAnew, true);
+        dueInside("column of groups", EdgesOfCallsTest::draftGroups, 3, QueryHarbor::answerAnew, false);
         dueInside("row of none", x -> Setups.draft(x, 5), 0, QueryHarbor::answerAnew, true);
     }
 
