@@ -10,6 +10,8 @@ public final class EdgesOfStoresTest {
     private static final int MORE = QueryHarbor.MORE;
     private static final int IS_NULL = QueryHarbor.IS_NULL;
     private static final int IS_MISSING = QueryHarbor.IS_MISSING;
+    /** Cells of three seats with two rows each: the seat, the row, the column. */
+    private static final int[][][] CELLS = {{{1, 2}, {2, 2}}, {{1, 3}, {2, 1}}, {{3, 1}, {2, 3}}};
 
     public static void main(String[] args) {
         storesAndSources();
@@ -148,6 +150,7 @@ public final class EdgesOfStoresTest {
         bothCellsAreTheSameNumber();
         lessAndMoreAtTheirEdges();
         isNullAndIsMissing();
+        allLinksHold();
         matchesAreOrderedBySeats();
         asManyAsTheLimitTells();
         oneGroupForEachDifferentCell();
@@ -214,6 +217,53 @@ public final class EdgesOfStoresTest {
         }
         Checks.due("IS_NULL for MISSING", 0, whereHolds(4, MISSING, IS_NULL, 0));
         Checks.due("IS_MISSING for MISSING", 1, whereHolds(5, MISSING, IS_MISSING, 0));
+    }
+
+    /** A seat, its column, another seat, and its column: all links that there can be between the first columns. */
+    private static int[] linkOf(int number) {
+        int seat = number / 4 == 2 ? 1 : 0;
+        int other = number / 4 == 0 ? 1 : 2;
+        return new int[] {seat, number % 2, other, number / 2 % 2};
+    }
+
+    /** "so that all links and conditions hold": each choice of links, in each order. */
+    private static void allLinksHold() {
+        for (int a = 0; a < 12; a++) {
+            for (int b = 0; b < 12; b++) {
+                for (int c = 0; c < 12; c++) {
+                    dueLinked(linkOf(a), linkOf(b), linkOf(c));
+                }
+            }
+        }
+    }
+
+    private static void dueLinked(int[]... links) {
+        QueryHarbor x = new QueryHarbor();
+        int[] sources = {0, 4, 1};
+        Setups.draft(x, sources);
+        for (int seat = 0; seat < 3; seat++) {
+            for (int[] row : CELLS[seat]) {
+                x.add(sources[seat], row[0], row[1], 0, 0);
+            }
+        }
+        for (int[] link : links) {
+            x.link(link[0], link[1], link[2], link[3]);
+        }
+        int matches = 0;
+        for (int choice = 0; choice < 8; choice++) {
+            boolean hold = true;
+            for (int[] link : links) {
+                hold &= cellOf(choice, link[0], link[1]) == cellOf(choice, link[2], link[3]);
+            }
+            matches += hold ? 1 : 0;
+        }
+        Checks.due("matches of all data", matches, x.answersAnew());
+        Checks.due("matches", matches, x.ask(0, 200));
+    }
+
+    /** A choice has a bit for each seat, which tells its row. */
+    private static int cellOf(int choice, int seat, int column) {
+        return CELLS[seat][choice >> seat & 1][column];
     }
 
     /** "Matches are ordered by their rows of the seat 0, then of the seat 1, then of the seat 2." */
