@@ -21,6 +21,13 @@ final class Checks {
         due(what, want ? 1 : 0, got ? 1 : 0);
     }
 
+    static void holds(String what, boolean is) {
+        calls++;
+        if (!is) {
+            tell("does not hold: " + what);
+        }
+    }
+
     static void place(String what, Call call) {
         dueThrow(what, IndexOutOfBoundsException.class, call);
     }
